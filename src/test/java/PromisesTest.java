@@ -283,6 +283,9 @@ public final class PromisesTest {
         PrivacyLattice third = withRows(values(0, 0, 0), values(0, 2, 0), values(0, 0, 1));
         third.demand(2, 1, 1);
         Check.due("10: sum 1 at 25, sum 2 at 10", third.best(), setting(0, 0, 1));
+        PrivacyLattice weight = withRows(values(0, 0, 0), values(1, 0, 0), values(0, 0, 8));
+        weight.demand(2, 1, 1);
+        Check.due("10: sum 1 at 1, sum 4 at 100", weight.best(), setting(1, 0, 0));
         PrivacyLattice last = withRows(values(7, 7, 7), values(8, 8, 8));
         Check.due("10: the greatest sum", last.best(), 124);
         last.drop();
