@@ -1,6 +1,9 @@
 import java.util.ArrayList;
+import java.util.Collection;
+import java.util.HashMap;
 import java.util.HashSet;
 import java.util.List;
+import java.util.Map;
 import java.util.Set;
 
 /** The document's words as they stand, with the Java library and without any short cut. */
@@ -136,22 +139,12 @@ final class Model {
         return shown;
     }
 
-    private List<List<Row>> groupsAt(int setting) {
-        List<List<Row>> groups = new ArrayList<>();
+    private Collection<List<Row>> groupsAt(int setting) {
+        Map<List<Integer>, List<Row>> groups = new HashMap<>();
         for (Row row : rows) {
-            List<Row> home = null;
-            for (List<Row> group : groups) {
-                if (shown(group.get(0), setting).equals(shown(row, setting))) {
-                    home = group;
-                }
-            }
-            if (home == null) {
-                home = new ArrayList<>();
-                groups.add(home);
-            }
-            home.add(row);
+            groups.computeIfAbsent(shown(row, setting), unused -> new ArrayList<>()).add(row);
         }
-        return groups;
+        return groups.values();
     }
 
     private List<Integer> allGood() {
