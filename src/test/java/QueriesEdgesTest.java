@@ -48,7 +48,7 @@ public final class QueriesEdgesTest {
             calls.put("leftOut(" + setting + ")", x -> x.leftOut(setting));
             calls.put("good(" + setting + ")", x -> x.good(setting));
             calls.put("groups(" + setting + ")", x -> x.groups(setting));
-            for (int r : new int[] {0, 15}) {
+            for (int r : new int[] {0, 1, 15}) {
                 calls.put("lookAlike(" + setting + ", " + r + ")", x -> x.lookAlike(setting, r));
             }
         }
@@ -197,24 +197,14 @@ public final class QueriesEdgesTest {
         allAreGood("one aside, S = 1", x);
     }
 
-    /** Seven secrets can't be eight at any setting. */
     private static void sixteenRowsNeverHidden() {
-        PrivacyLattice x = neverHidden();
+        PrivacyLattice x = Tables.neverHidden();
         everySettingAnswers("never hidden, S = 15", x, 16, false);
         noneIsGood("never hidden, S = 15", x);
-        PrivacyLattice y = neverHidden();
+        PrivacyLattice y = Tables.neverHidden();
         Check.due("never hidden: demand(1, 8, 16)", y.demand(1, 8, 16), 0);
         everySettingAnswers("never hidden, S = 16", y, 16, true);
         allAreGood("never hidden, S = 16", y);
-    }
-
-    private static PrivacyLattice neverHidden() {
-        PrivacyLattice x = new PrivacyLattice();
-        for (int i = 0; i < 16; i++) {
-            Check.due("never hidden: row " + i, x.row(i, i % 7), i);
-        }
-        Check.due("never hidden: demand(1, 8, 15)", x.demand(1, 8, 15), 0);
-        return x;
     }
 
     private static void everySettingAnswers(String at, PrivacyLattice x, int leftOut, boolean good) {

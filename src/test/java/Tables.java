@@ -65,6 +65,16 @@ final class Tables {
         return x;
     }
 
+    /** Sixteen rows of seven secrets that can't be eight at any setting, and one row too many to leave out. */
+    static PrivacyLattice neverHidden() {
+        PrivacyLattice x = new PrivacyLattice();
+        for (int i = 0; i < 16; i++) {
+            Check.due("row " + i, x.row(i, i % 7), i);
+        }
+        Check.due("demand(1, 8, 15)", x.demand(1, 8, 15), 0);
+        return x;
+    }
+
     static PrivacyLattice oneRow() {
         PrivacyLattice x = withRows(values(1, 2, 3));
         Check.due("demand(8, 8, 16)", x.demand(8, 8, 16), 0);
@@ -85,6 +95,7 @@ final class Tables {
         states.put("one row", Tables::oneRow);
         states.put("fifteen rows", Tables::fifteenRows);
         states.put("sixteen rows", Tables::sixteenMixed);
+        states.put("sixteen rows, no setting good", Tables::neverHidden);
         return states;
     }
 }
