@@ -28,7 +28,8 @@ public final class ModelTest {
             }
         }
         for (int seed = 0; seed < RUNS; seed++) {
-            new ModelTest(seed).everySetting();
+            // So that tables of no rows to sixteen all come, each with several spreads.
+            new ModelTest(seed).everySetting(seed % 17);
         }
         Check.finish();
     }
@@ -71,10 +72,9 @@ public final class ModelTest {
         }
     }
 
-    /** Fills an object, then asks for every setting: 16 + 1 + 3 * 125 + 3 + 20 calls. */
-    private void everySetting() {
+    /** Fills an object, then asks for every setting: 16 + 1 + 3 * 125 + 3 + 20 + 5 * 18 calls at most. */
+    private void everySetting(int rows) {
         String at = name + ", every setting: ";
-        int rows = below(17);
         for (int i = 0; i < rows; i++) {
             compareRow(at, someValues(), below(8));
         }
@@ -89,6 +89,12 @@ public final class ModelTest {
         Check.due(at + "best()", real.best(), model.best());
         for (int i = 0; i < 20; i++) {
             compareFinestAt(at, i);
+        }
+        for (int i = 0; i < 5; i++) {
+            int setting = below(125);
+            for (int r = -1; r <= 16; r++) {
+                compareLookAlike(at, setting, r);
+            }
         }
     }
 
